@@ -58,6 +58,12 @@ public final class OneEared {
     private static final int CLAIMER = 0;
     private static final int CLAIMED = 1;
 
+    // the FAULTS
+    private static final int BROKEN_OFF = 1;
+    private static final int NO_SUCH_NUMBER = 2;
+    private static final int ONE_TOO_MANY = 3;
+    private static final int MISSING = 4;
+
     private static final int ROUND_HOURS = 60;
     // asked as 10 + something
     private static final int FROM = 10;
@@ -1091,6 +1097,11 @@ public final class OneEared {
         private static final int RIGHT = 3;
         private static final int PLEAD = 4;
         private static final int TWIN = 5;
+        private static final int GOES = 6;
+        private static final int SAYS = 7;
+        private static final int WAITS = 8;
+        private static final int VOTES_YES = 9;
+        private static final int VOTES_NO = 10;
         private static final int KNOW = 11;
         private static final int FORMS = 12;
 
@@ -1148,7 +1159,7 @@ public final class OneEared {
             advance();
             for (int lines = 0; lines <= length && token != END; lines++) {
                 if (!readLine(sort)) {
-                    fault = 1;
+                    fault = BROKEN_OFF;
                     place = start;
                     return;
                 }
@@ -1215,7 +1226,7 @@ public final class OneEared {
                 return false;
             }
             if (isOneTooMany(form)) {
-                note(3, start);
+                note(ONE_TOO_MANY, start);
             }
             advance();
             Arrays.fill(numbers, NONE);
@@ -1260,15 +1271,15 @@ public final class OneEared {
                     return "plead";
                 case TWIN:
                     return "twin";
-                case 6:
+                case GOES:
                     return "go";
-                case 7:
+                case SAYS:
                     return "say";
-                case 8:
+                case WAITS:
                     return "wait";
-                case 9:
+                case VOTES_YES:
                     return "yes";
-                case 10:
+                case VOTES_NO:
                     return "no";
                 default:
                     return "know";
@@ -1321,7 +1332,7 @@ public final class OneEared {
             }
             int greatest = GREATEST[form * MOST_NUMBERS + i];
             if (value > greatest || form == SIZE && value < LEAST_SIZE) {
-                note(2, start);
+                note(NO_SUCH_NUMBER, start);
             } else if (greatest == LAST_FIELD) {
                 // no NUMBERS but FIELDS go so far
                 toldFields |= 1L << value;
@@ -1394,7 +1405,7 @@ public final class OneEared {
             boolean missing = (toldFields & ~court.all()) != 0
                     || toldPleaders >>> court.pleaders != 0;
             if (missing || isSomebodyInWall()) {
-                note(4, length);
+                note(MISSING, length);
             } else {
                 court.measure();
             }
