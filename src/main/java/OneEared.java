@@ -849,7 +849,6 @@ public final class OneEared {
             judges = 0;
             pleaders = 0;
             Arrays.fill(twin, NONE);
-            measure();
         }
 
         void copyFrom(Court other) {

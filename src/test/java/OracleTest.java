@@ -3,7 +3,7 @@ import java.util.Random;
 
 /** Random runs of calls on OneEared and on the Oracle, whose answers must be the same. */
 final class OracleTest {
-    private static final int RUNS = Integer.getInteger("runs", 400);
+    private static final int RUNS = Integer.getInteger("runs", 600);
 
     private final Random random;
     private final OneEared x = new OneEared();
@@ -29,9 +29,16 @@ final class OracleTest {
         }
     }
 
+    // what an object answers behind its 512th call is free
+    private static final int CALLS = 512;
+    // as many as one change or question makes at the most
+    private static final int AT_ONCE = 50;
+
     private boolean agreed = true;
+    private int calls;
 
     private void same(String call, int got, int want) {
+        calls++;
         if (got != want) {
             agreed = false;
             System.out.println("run " + run + ": " + call + " answered " + got + ", the oracle " + want);
@@ -62,7 +69,7 @@ final class OracleTest {
                 tell(sort, -1, below(2) == 0 ? valid(sort) : spoiled(valid(sort)));
             }
         }
-        for (int call = 0; call < 250; call++) {
+        while (calls + AT_ONCE < CALLS) {
             if (below(12) == 0) {
                 change();
             } else {

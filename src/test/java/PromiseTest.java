@@ -5,11 +5,11 @@ final class PromiseTest {
     //   0  1  2  3     judge 0 on 0, left ear, faces east for good, reach 3
     //   4  #  6  7     judge 1 on 11, right ear, faces north at hour 0, turns by 1, reach 2
     //   8  9 10 11     pleader 0 on 8 with a twin on 3, pleader 1 on 2
-    private static final String COURT = "size 4 3;wall 5;left 0 1 3 0;right 11 0 2 1;plead 8;twin 0 3;plead 2;";
+    static final String COURT = "size 4 3;wall 5;left 0 1 3 0;right 11 0 2 1;plead 8;twin 0 3;plead 2;";
     // deed 6 can't be: 5 is a wall
-    private static final String TRIAL = "say 0 4 0;say 1 3 1;go 0 0;wait;say 0 4 3;go 1 3;go 1 2;";
-    private static final String LAW = "yes 3 -;no 4 3;yes - -;";
-    private static final String ROLL = "know 0 3;know 1 3;know 1 4;know 4 0;";
+    static final String TRIAL = "say 0 4 0;say 1 3 1;go 0 0;wait;say 0 4 3;go 1 3;go 1 2;";
+    static final String LAW = "yes 3 -;no 4 3;yes - -;";
+    static final String ROLL = "know 0 3;know 1 3;know 1 4;know 4 0;";
 
     private final Due due = new Due();
 
@@ -45,21 +45,7 @@ final class PromiseTest {
     }
 
     private static OneEared sample() {
-        OneEared x = new OneEared();
-        Due.tell(x, Due.COURT, COURT);
-        Due.tell(x, Due.TRIAL, TRIAL);
-        Due.tell(x, Due.LAW, LAW);
-        Due.tell(x, Due.ROLL, ROLL);
-        return x;
-    }
-
-    private static OneEared of(String court, String trial, String law, String roll) {
-        OneEared x = new OneEared();
-        Due.tell(x, Due.COURT, court);
-        Due.tell(x, Due.TRIAL, trial);
-        Due.tell(x, Due.LAW, law);
-        Due.tell(x, Due.ROLL, roll);
-        return x;
+        return Due.of(COURT, TRIAL, LAW, ROLL);
     }
 
     // promise 1, and of 5 and 37 what a new object answers
@@ -137,49 +123,41 @@ final class PromiseTest {
         due.is("fault(-1)", x.fault(-1), NONE);
     }
 
-    private void faultOf(int sort, String text, int fault, int place) {
-        OneEared x = new OneEared();
-        due.is("text '" + text + "'", Due.tell(x, sort, text), fault == 0 ? 0 : NONE);
-        due.is("fault of '" + text + "'", x.fault(0), fault);
-        due.is("place in '" + text + "'", x.fault(1), place);
-        due.is("count with '" + text + "'", x.count(sort), fault == 0 ? 1 : 0);
-    }
-
     // promises 4 and 5: FAULT 1 and what is none
     private void textFaults() {
-        faultOf(0, "  \n ", 0, NONE);
-        faultOf(0, "wall1 2;plead3;\nsize 8\n8 ;", 0, NONE);
-        faultOf(0, "wall 01 02 3 4 5 6 7 8 9 10;", 0, NONE);
-        faultOf(0, "wall;", 1, 4);
-        faultOf(0, "wall 1", 1, 6);
-        faultOf(0, "wall 1 \n", 1, 8);
-        faultOf(0, "wall 1 -;", 1, 7);
-        faultOf(0, "wall 123;", 1, 5);
-        faultOf(0, "walls 1;", 1, 0);
-        faultOf(0, " wal 1;", 1, 1);
-        faultOf(0, "wall 1;;", 1, 7);
-        faultOf(0, "wall 1\t;", 1, 6);
-        faultOf(0, "wall 1;Wall 2;", 1, 7);
-        faultOf(0, "wall 1;\u00e9", 1, 7);
-        faultOf(0, "7 wall 1;", 1, 0);
-        faultOf(0, "size 4;", 1, 6);
-        faultOf(0, "size 4 4 4;", 1, 9);
-        faultOf(0, "left 1 1 1;", 1, 10);
-        faultOf(0, "twin 0;", 1, 6);
-        faultOf(0, "plead 0 1;", 1, 8);
-        faultOf(0, "go 0 1;", 1, 0);
-        faultOf(1, "wait;say 0 1 1;go 3 3;", 0, NONE);
-        faultOf(1, "wait 1;", 1, 5);
-        faultOf(1, "say 0 0;", 1, 7);
-        faultOf(1, "go 0 -;", 1, 5);
-        faultOf(1, "wall 1;", 1, 0);
-        faultOf(2, "yes - -;no 0 9;yes 3 -;no - 3;yes--;", 0, NONE);
-        faultOf(2, "yes -;", 1, 5);
-        faultOf(2, "yes - - -;", 1, 8);
-        faultOf(2, "maybe - -;", 1, 0);
-        faultOf(3, "know 0 3;know 5 9;", 0, NONE);
-        faultOf(3, "know 0 -;", 1, 7);
-        faultOf(3, "know 0;", 1, 6);
+        due.faultOf(0, "  \n ", 0, NONE);
+        due.faultOf(0, "wall1 2;plead3;\nsize 8\n8 ;", 0, NONE);
+        due.faultOf(0, "wall 01 02 3 4 5 6 7 8 9 10;", 0, NONE);
+        due.faultOf(0, "wall;", 1, 4);
+        due.faultOf(0, "wall 1", 1, 6);
+        due.faultOf(0, "wall 1 \n", 1, 8);
+        due.faultOf(0, "wall 1 -;", 1, 7);
+        due.faultOf(0, "wall 123;", 1, 5);
+        due.faultOf(0, "walls 1;", 1, 0);
+        due.faultOf(0, " wal 1;", 1, 1);
+        due.faultOf(0, "wall 1;;", 1, 7);
+        due.faultOf(0, "wall 1\t;", 1, 6);
+        due.faultOf(0, "wall 1;Wall 2;", 1, 7);
+        due.faultOf(0, "wall 1;\u00e9", 1, 7);
+        due.faultOf(0, "7 wall 1;", 1, 0);
+        due.faultOf(0, "size 4;", 1, 6);
+        due.faultOf(0, "size 4 4 4;", 1, 9);
+        due.faultOf(0, "left 1 1 1;", 1, 10);
+        due.faultOf(0, "twin 0;", 1, 6);
+        due.faultOf(0, "plead 0 1;", 1, 8);
+        due.faultOf(0, "go 0 1;", 1, 0);
+        due.faultOf(1, "wait;say 0 1 1;go 3 3;", 0, NONE);
+        due.faultOf(1, "wait 1;", 1, 5);
+        due.faultOf(1, "say 0 0;", 1, 7);
+        due.faultOf(1, "go 0 -;", 1, 5);
+        due.faultOf(1, "wall 1;", 1, 0);
+        due.faultOf(2, "yes - -;no 0 9;yes 3 -;no - 3;yes--;", 0, NONE);
+        due.faultOf(2, "yes -;", 1, 5);
+        due.faultOf(2, "yes - - -;", 1, 8);
+        due.faultOf(2, "maybe - -;", 1, 0);
+        due.faultOf(3, "know 0 3;know 5 9;", 0, NONE);
+        due.faultOf(3, "know 0 -;", 1, 7);
+        due.faultOf(3, "know 0;", 1, 6);
         // what end() cut off is not read
         OneEared x = new OneEared();
         Due.put(x, "wall 123;".getBytes(), 0);
@@ -195,68 +173,68 @@ final class PromiseTest {
 
     // promise 5: FAULTS 2 and 3, and which of all is told
     private void firstFault() {
-        faultOf(0, "size 1 5;", 2, 5);
-        faultOf(0, "size 5 9;", 2, 7);
-        faultOf(0, "size 2 8;", 0, NONE);
-        faultOf(0, "wall 3 64;", 2, 7);
-        faultOf(0, "left 64 0 0 0;", 2, 5);
-        faultOf(0, "left 0 4 0 0;", 2, 7);
-        faultOf(0, "right 0 0 10 0;", 2, 10);
-        faultOf(0, "right 0 0 9 4;", 2, 12);
-        faultOf(0, "plead 64;", 2, 6);
-        faultOf(0, "twin 4 0;", 2, 5);
-        faultOf(0, "plead 0;twin 0 64;", 2, 15);
-        faultOf(0, "size 9 64;wall 99;", 2, 5);
-        faultOf(0, "wall 99;wall", 1, 12);
-        faultOf(0, "wall 30;wall 99;", 2, 13);
-        faultOf(0, "left 0 0 0 0;".repeat(6), 0, NONE);
-        faultOf(0, "left 0 0 0 0;right 0 0 0 0;".repeat(3) + "left 0 0 0 0;", 3, 81);
-        faultOf(0, "left 0 9 0 0;" + "right 0 0 0 0;".repeat(6), 2, 7);
-        faultOf(0, "left 0 0 0 0;".repeat(6) + "left 0 9 0 0;", 3, 78);
-        faultOf(0, "plead 0;".repeat(4), 0, NONE);
-        faultOf(0, "plead 0;".repeat(5), 3, 32);
-        faultOf(0, "plead 0;".repeat(5) + "x", 1, 40);
-        faultOf(1, "go 4 0;", 2, 3);
-        faultOf(1, "go 0 4;", 2, 5);
-        faultOf(1, "say 4 0 0;", 2, 4);
-        faultOf(1, "say 0 10 0;", 2, 6);
-        faultOf(1, "say 0 0 10;", 2, 8);
-        faultOf(1, "wait;".repeat(30), 0, NONE);
-        faultOf(1, "wait;".repeat(31), 3, 150);
-        faultOf(1, "go 0 4;" + "wait;".repeat(30), 2, 5);
-        faultOf(2, "yes 10 -;", 2, 4);
-        faultOf(2, "yes - 10;", 2, 6);
-        faultOf(2, "no - -;".repeat(8), 0, NONE);
-        faultOf(2, "no - -;".repeat(9), 3, 56);
-        faultOf(3, "know 6 0;", 2, 5);
-        faultOf(3, "know 5 10;", 2, 7);
-        faultOf(3, "know 0 0;".repeat(12), 0, NONE);
-        faultOf(3, "know 0 0;".repeat(13), 3, 108);
+        due.faultOf(0, "size 1 5;", 2, 5);
+        due.faultOf(0, "size 5 9;", 2, 7);
+        due.faultOf(0, "size 2 8;", 0, NONE);
+        due.faultOf(0, "wall 3 64;", 2, 7);
+        due.faultOf(0, "left 64 0 0 0;", 2, 5);
+        due.faultOf(0, "left 0 4 0 0;", 2, 7);
+        due.faultOf(0, "right 0 0 10 0;", 2, 10);
+        due.faultOf(0, "right 0 0 9 4;", 2, 12);
+        due.faultOf(0, "plead 64;", 2, 6);
+        due.faultOf(0, "twin 4 0;", 2, 5);
+        due.faultOf(0, "plead 0;twin 0 64;", 2, 15);
+        due.faultOf(0, "size 9 64;wall 99;", 2, 5);
+        due.faultOf(0, "wall 99;wall", 1, 12);
+        due.faultOf(0, "wall 30;wall 99;", 2, 13);
+        due.faultOf(0, "left 0 0 0 0;".repeat(6), 0, NONE);
+        due.faultOf(0, "left 0 0 0 0;right 0 0 0 0;".repeat(3) + "left 0 0 0 0;", 3, 81);
+        due.faultOf(0, "left 0 9 0 0;" + "right 0 0 0 0;".repeat(6), 2, 7);
+        due.faultOf(0, "left 0 0 0 0;".repeat(6) + "left 0 9 0 0;", 3, 78);
+        due.faultOf(0, "plead 0;".repeat(4), 0, NONE);
+        due.faultOf(0, "plead 0;".repeat(5), 3, 32);
+        due.faultOf(0, "plead 0;".repeat(5) + "x", 1, 40);
+        due.faultOf(1, "go 4 0;", 2, 3);
+        due.faultOf(1, "go 0 4;", 2, 5);
+        due.faultOf(1, "say 4 0 0;", 2, 4);
+        due.faultOf(1, "say 0 10 0;", 2, 6);
+        due.faultOf(1, "say 0 0 10;", 2, 8);
+        due.faultOf(1, "wait;".repeat(30), 0, NONE);
+        due.faultOf(1, "wait;".repeat(31), 3, 150);
+        due.faultOf(1, "go 0 4;" + "wait;".repeat(30), 2, 5);
+        due.faultOf(2, "yes 10 -;", 2, 4);
+        due.faultOf(2, "yes - 10;", 2, 6);
+        due.faultOf(2, "no - -;".repeat(8), 0, NONE);
+        due.faultOf(2, "no - -;".repeat(9), 3, 56);
+        due.faultOf(3, "know 6 0;", 2, 5);
+        due.faultOf(3, "know 5 10;", 2, 7);
+        due.faultOf(3, "know 0 0;".repeat(12), 0, NONE);
+        due.faultOf(3, "know 0 0;".repeat(13), 3, 108);
     }
 
     // promise 5: FAULT 4, and what a later line strikes
     private void courtFaults() {
-        faultOf(0, "wall 25;", 4, 8);
-        faultOf(0, "wall 24; \n", 0, NONE);
-        faultOf(0, "wall 25; \n", 4, 10);
-        faultOf(0, "wall 25;size 6 5;", 0, NONE);
-        faultOf(0, "wall 24;size 2 2;", 4, 17);
-        faultOf(0, "size 8 8;wall 63;", 0, NONE);
-        faultOf(0, "left 25 0 0 0;", 4, 14);
-        faultOf(0, "plead 25;", 4, 9);
-        faultOf(0, "plead 0;twin 0 25;", 4, 18);
-        faultOf(0, "twin 0 1;", 4, 9);
-        faultOf(0, "twin 0 1;plead 2;", 0, NONE);
-        faultOf(0, "plead 2;twin 1 1;", 4, 17);
-        faultOf(0, "twin 3 1;twin 0 1;plead 2;", 4, 26);
-        faultOf(0, "left 3 0 0 0;wall 3;", 4, 20);
-        faultOf(0, "left 3 0 0 0;left 4 0 0 0;wall 3;", 4, 33);
-        faultOf(0, "wall 3;plead 3;", 4, 15);
-        faultOf(0, "wall 3;plead 3;plead 4;", 4, 23);
-        faultOf(0, "wall 3;plead 2;twin 0 3;", 4, 24);
-        faultOf(0, "wall 3;plead 2;twin 0 3;twin 0 4;", 0, NONE);
+        due.faultOf(0, "wall 25;", 4, 8);
+        due.faultOf(0, "wall 24; \n", 0, NONE);
+        due.faultOf(0, "wall 25; \n", 4, 10);
+        due.faultOf(0, "wall 25;size 6 5;", 0, NONE);
+        due.faultOf(0, "wall 24;size 2 2;", 4, 17);
+        due.faultOf(0, "size 8 8;wall 63;", 0, NONE);
+        due.faultOf(0, "left 25 0 0 0;", 4, 14);
+        due.faultOf(0, "plead 25;", 4, 9);
+        due.faultOf(0, "plead 0;twin 0 25;", 4, 18);
+        due.faultOf(0, "twin 0 1;", 4, 9);
+        due.faultOf(0, "twin 0 1;plead 2;", 0, NONE);
+        due.faultOf(0, "plead 2;twin 1 1;", 4, 17);
+        due.faultOf(0, "twin 3 1;twin 0 1;plead 2;", 4, 26);
+        due.faultOf(0, "left 3 0 0 0;wall 3;", 4, 20);
+        due.faultOf(0, "left 3 0 0 0;left 4 0 0 0;wall 3;", 4, 33);
+        due.faultOf(0, "wall 3;plead 3;", 4, 15);
+        due.faultOf(0, "wall 3;plead 3;plead 4;", 4, 23);
+        due.faultOf(0, "wall 3;plead 2;twin 0 3;", 4, 24);
+        due.faultOf(0, "wall 3;plead 2;twin 0 3;twin 0 4;", 0, NONE);
         // a FIELD that was told of and is not there, though the TWIN has another one
-        faultOf(0, "plead 2;twin 0 30;twin 0 4;", 4, 27);
+        due.faultOf(0, "plead 2;twin 0 30;twin 0 4;", 4, 27);
         // a court's FAULT is none of the next text's
         OneEared x = new OneEared();
         due.is("court in a wall", Due.tell(x, 0, "wall 3;plead 3;"), NONE);
@@ -278,14 +256,14 @@ final class PromiseTest {
             due.is("wall(0, " + field + ")", x.wall(0, field), field == 5);
         }
         due.is("wall(1, 5)", x.wall(1, 5), false);
-        x = of("size 3 3;size 2 4;wall 1 2;wall 2 3;", "", "", "");
+        x = Due.of("size 3 3;size 2 4;wall 1 2;wall 2 3;", "", "", "");
         due.is("the later size, W", x.court(0, 0), 2);
         due.is("the later size, H", x.court(0, 1), 4);
         due.is("a WALL told twice is one", x.court(0, 2), 3);
         due.is("without JUDGES the first hour", x.court(0, 5), 0);
         due.is("wall(0, 1)", x.wall(0, 1), true);
         due.is("wall(0, 65)", x.wall(0, 65), false);
-        x = of("wall 0;", "", "", "");
+        x = Due.of("wall 0;", "", "", "");
         due.is("wall 0", x.wall(0, 0), true);
         due.is("wall 64", x.wall(0, 64), false);
     }
@@ -311,7 +289,7 @@ final class PromiseTest {
         due.is("judge 2", x.judge(0, 2, 0), NONE);
         due.is("judge -1", x.judge(0, -1, 0), NONE);
         due.is("judge of no court", x.judge(1, 0, 0), NONE);
-        due.is("turned by 3", of("left 0 2 0 3;", "", "", "").judge(0, 0, 12), 0);
+        due.is("turned by 3", Due.of("left 0 2 0 3;", "", "", "").judge(0, 0, 12), 0);
         due.is("pleader 0", x.pleader(0, 0, false), 8);
         due.is("twin 0", x.pleader(0, 0, true), 3);
         due.is("pleader 1", x.pleader(0, 1, false), 2);
@@ -319,7 +297,7 @@ final class PromiseTest {
         due.is("pleader 2", x.pleader(0, 2, false), -2);
         due.is("pleader -1", x.pleader(0, -1, true), -2);
         due.is("pleader of no court", x.pleader(1, 0, false), -2);
-        x = of("plead 1;twin 0 2;twin 0 3;", "", "", "");
+        x = Due.of("plead 1;twin 0 2;twin 0 3;", "", "", "");
         due.is("the later twin", x.pleader(0, 0, true), 3);
     }
 
@@ -335,7 +313,7 @@ final class PromiseTest {
         due.is("far 12", x.far(0, 0, 12), NONE);
         due.is("far -1", x.far(0, -1, 0), NONE);
         due.is("far of no court", x.far(1, 0, 0), NONE);
-        due.is("far, cut off", of("size 3 2;wall 1 4;", "", "", "").far(0, 0, 2), NONE);
+        due.is("far, cut off", Due.of("size 3 2;wall 1 4;", "", "", "").far(0, 0, 2), NONE);
         due.is("comes from ahead", x.comes(0, 0, 6, 0), 1);
         due.is("comes from his right", x.comes(0, 0, 8, 0), 2);
         due.is("comes from ahead and left", x.comes(0, 1, 6, 0), 9);
@@ -349,9 +327,9 @@ final class PromiseTest {
         due.is("comes from nowhere", x.comes(0, 0, 12, 0), NONE);
         due.is("comes to no judge", x.comes(0, 2, 0, 0), NONE);
         due.is("comes in no court", x.comes(1, 0, 0, 0), NONE);
-        due.is("comes, cut off", of("size 3 2;wall 1 4;left 0 0 0 0;", "", "", "").comes(0, 0, 2, 0), NONE);
-        due.is("comes, all around", of("size 3 3;right 4 0 0 0;", "", "", "").comes(0, 0, 0, 0), 9);
-        due.is("no round the edge", of("size 2 2;right 1 0 0 0;", "", "", "").comes(0, 0, 2, 0), 12);
+        due.is("comes, cut off", Due.of("size 3 2;wall 1 4;left 0 0 0 0;", "", "", "").comes(0, 0, 2, 0), NONE);
+        due.is("comes, all around", Due.of("size 3 3;right 4 0 0 0;", "", "", "").comes(0, 0, 0, 0), 9);
+        due.is("no round the edge", Due.of("size 2 2;right 1 0 0 0;", "", "", "").comes(0, 0, 2, 0), 12);
     }
 
     // promises 12 and 13
@@ -379,10 +357,10 @@ final class PromiseTest {
         due.is("pulpit at hour 100", x.pulpit(0, 100, 0, false), NONE);
         due.is("pulpit by loud 10", x.pulpit(0, 0, 10, true), NONE);
         due.is("pulpit of no court", x.pulpit(1, 0, 0, true), NONE);
-        x = of("wall 0;", "", "", "");
+        x = Due.of("wall 0;", "", "", "");
         due.is("pulpit without judges", x.pulpit(0, 0, 0, false), 1);
         due.is("pulpit without judges, many", x.pulpit(0, 0, 0, true), 0);
-        x = of("size 2 2;wall 0 1 2 3;", "", "", "");
+        x = Due.of("size 2 2;wall 0 1 2 3;", "", "", "");
         due.is("pulpit, all walls", x.pulpit(0, 0, 0, false), NONE);
         due.is("pulpit, all walls, many", x.pulpit(0, 0, 0, true), NONE);
     }
@@ -398,7 +376,7 @@ final class PromiseTest {
         due.is("near of no pleader", x.near(0, 0, 2, 0), NONE);
         due.is("near by loud 10", x.near(0, 0, 0, 10), NONE);
         due.is("near in no court", x.near(1, 0, 0, 0), NONE);
-        OneEared cut = of("size 3 2;wall 1 4;left 0 0 9 0;plead 2;", "", "", "");
+        OneEared cut = Due.of("size 3 2;wall 1 4;left 0 0 9 0;plead 2;", "", "", "");
         due.is("near, cut off", cut.near(0, 0, 0, 9), NONE);
         due.is("round, cut off", cut.round(0, 0, 9, 0), NONE);
         due.is("round, cut off, way", cut.round(0, 0, 9, 10), NONE);
@@ -417,7 +395,7 @@ final class PromiseTest {
         due.is("round by loud -1", x.round(0, 1, -1, 0), NONE);
         due.is("round of no pleader", x.round(0, 2, 0, 0), NONE);
         due.is("round in no court", x.round(1, 0, 0, 0), NONE);
-        due.is("round without judges", of("plead 0;", "", "", "").round(0, 0, 0, 0), NONE);
+        due.is("round without judges", Due.of("plead 0;", "", "", "").round(0, 0, 0, 0), NONE);
         due.is("echo", x.echo(0, 0, 1, 0), 2);
         due.is("echo turned", x.echo(0, 1, 0, 0), 2);
         due.is("echo of one", x.echo(0, 0, NONE, 0), 5);
@@ -430,24 +408,24 @@ final class PromiseTest {
         due.is("echo by loud 10", x.echo(0, 0, 1, 10), NONE);
         due.is("blind by loud 10", x.echo(0, NONE, NONE, 10), NONE);
         due.is("blind in no court", x.echo(1, NONE, NONE, 0), NONE);
-        due.is("blind, all walls", of("size 2 2;wall 0 1 2 3;", "", "", "").echo(0, NONE, NONE, 0), 0);
+        due.is("blind, all walls", Due.of("size 2 2;wall 0 1 2 3;", "", "", "").echo(0, NONE, NONE, 0), 0);
     }
 
     // promise 15: the way first by rows, long ways, the last hour that counts
     private void longRounds() {
         // from 2, at hour 1, he would be heard, too; but going north stands before waiting
-        OneEared x = of("size 2 2;right 0 0 9 1;plead 2;", "", "", "");
+        OneEared x = Due.of("size 2 2;right 0 0 9 1;plead 2;", "", "", "");
         due.is("round to his field", x.round(0, 0, 0, 0), 2);
         due.is("round to his field, first", x.round(0, 0, 0, 10), 0);
         due.is("round to his field, then", x.round(0, 0, 0, 11), 4);
         // judges who HEAR just their own fields: says on 4, goes north twice, says on 0
-        x = of("size 2 3;wall 3;left 0 3 0 0;left 4 2 0 0;wall 5;plead 4;twin 0 0;", "", "", "");
+        x = Due.of("size 2 3;wall 3;left 0 3 0 0;left 4 2 0 0;wall 5;plead 4;twin 0 0;", "", "", "");
         int[] way = {4, 0, 0, 4};
         due.is("round of two", x.round(0, 0, 0, 0), 4);
         for (int i = 0; i < way.length; i++) {
             due.is("round of two, hour " + i, x.round(0, 0, 0, 10 + i), way[i]);
         }
-        x = of("size 8 8;wall 8 9 10 11 12 13 14;wall 25 26 27 28 29 30 31;wall 40 41 42 43 44 45 46;"
+        x = Due.of("size 8 8;wall 8 9 10 11 12 13 14;wall 25 26 27 28 29 30 31;wall 40 41 42 43 44 45 46;"
                 + "left 56 3 0 0;left 0 0 0 0;plead 0;plead 32;", "", "", "");
         due.is("far through the teeth", x.far(0, 0, 56), 35);
         due.is("comes through the teeth", x.comes(0, 0, 0, 0), 6);
@@ -460,7 +438,7 @@ final class PromiseTest {
         due.is("round from the middle", x.round(0, 1, 0, 0), 54);
         // a comb of four rows, a judge at each row's eastern end: 34 steps in all, each twice
         // but for those to the last judge, and four words
-        x = of("size 8 8;wall 9 10 11 12 13 14 15 25 26 27 28 29 30 31 41 42 43 44 45 46 47;"
+        x = Due.of("size 8 8;wall 9 10 11 12 13 14 15 25 26 27 28 29 30 31 41 42 43 44 45 46 47;"
                 + "wall 56 57 58 59 60 61 62 63;left 7 1 0 0;left 23 1 0 0;left 39 1 0 0;left 55 1 0 0;"
                 + "plead 16;plead 17;plead 18;", "", "", "");
         due.is("round, 61 hours", x.round(0, 0, 0, 0), NONE);
@@ -488,7 +466,7 @@ final class PromiseTest {
         due.is("hush at hour 100", x.hush(0, 7, 100, 1), NONE);
         due.is("hush of no field", x.hush(0, 12, 0, 1), NONE);
         due.is("hush in no court", x.hush(1, 7, 0, 1), NONE);
-        OneEared six = of("left 7 0 0 0;".repeat(6), "", "", "");
+        OneEared six = Due.of("left 7 0 0 0;".repeat(6), "", "", "");
         due.is("hush for 6", six.hush(0, 7, 0, 6), 0);
         due.is("hush for 6, beside", six.hush(0, 2, 0, 6), 1);
         due.is("hush for 6, behind", six.hush(0, 12, 0, 6), NONE);
@@ -497,19 +475,19 @@ final class PromiseTest {
         due.is("carve by loud 10", x.areas(0, 10), NONE);
         due.is("carve by loud -2", x.areas(0, -2), NONE);
         due.is("areas of no court", x.areas(1, NONE), NONE);
-        due.is("areas, all walls", of("size 2 2;wall 0 1 2 3;", "", "", "").areas(0, NONE), 0);
-        due.is("areas, checkered", of("size 2 2;wall 0 3;", "", "", "").areas(0, NONE), 2);
-        due.is("carve without walls", of("", "", "", "").areas(0, 0), NONE);
+        due.is("areas, all walls", Due.of("size 2 2;wall 0 1 2 3;", "", "", "").areas(0, NONE), 0);
+        due.is("areas, checkered", Due.of("size 2 2;wall 0 3;", "", "", "").areas(0, NONE), 2);
+        due.is("carve without walls", Due.of("", "", "", "").areas(0, 0), NONE);
         // 0 # 2 # 4 over a row of walls; the judge on 0 faces east: without 1 he HEARS 1 and 2,
         // one field still blind; without 3 the fields 2, 3, 4 are
-        OneEared row = of("size 5 2;wall 1 3 5 6 7 8 9;left 0 1 2 0;", "", "", "");
+        OneEared row = Due.of("size 5 2;wall 1 3 5 6 7 8 9;left 0 1 2 0;", "", "", "");
         due.is("areas of the row", row.areas(0, NONE), 3);
         due.is("carve the row", row.areas(0, 0), 1);
         due.is("nothing is carved for good", row.areas(0, NONE), 3);
         due.is("and no wall is gone", row.court(0, 2), 7);
-        OneEared same = of("size 2 3;wall 3 2;left 4 2 0 0;", "", "", "");
+        OneEared same = Due.of("size 2 3;wall 3 2;left 4 2 0 0;", "", "", "");
         due.is("carve, several, the least", same.areas(0, 0), 2);
-        OneEared later = of("size 2 3;wall 0 1;left 4 2 9 0;", "", "", "");
+        OneEared later = Due.of("size 2 3;wall 0 1;left 4 2 9 0;", "", "", "");
         due.is("carve, the later is better", later.areas(0, 0), 1);
     }
 
@@ -551,16 +529,16 @@ final class PromiseTest {
         due.is("stands in no court", x.stands(1, 0, 0, 0, false), -2);
         due.is("stands in no trial", x.stands(0, 1, 0, 0, false), -2);
         // at the edge the twin stays, the pleader can't
-        x = of("size 2 2;plead 2;twin 0 2;", "go 0 0;go 0 1;go 0 3;go 0 3;go 0 2;", "", "");
+        x = Due.of("size 2 2;plead 2;twin 0 2;", "go 0 0;go 0 1;go 0 3;go 0 3;go 0 2;", "", "");
         due.is("stop at the edge", x.stop(0, 0), 3);
         due.is("the twin stays", x.stands(0, 0, 1, 0, true), 2);
         due.is("the twin stays at the other edge", x.stands(0, 0, 2, 0, true), 2);
         due.is("the twin steps", x.stands(0, 0, 3, 0, true), 3);
         due.is("the pleader", x.stands(0, 0, 3, 0, false), 0);
-        due.is("no such pleader says", of("plead 0;", "wait;say 1 0 0;wait;", "", "").stop(0, 0), 1);
-        due.is("no such pleader goes", of("", "wait;wait;go 0 0;", "", "").stop(0, 0), 2);
-        due.is("nothing stops waiting", of("", "wait;wait;", "", "").stop(0, 0), 2);
-        due.is("no deeds", of("", "", "", "").stop(0, 0), 0);
+        due.is("no such pleader says", Due.of("plead 0;", "wait;say 1 0 0;wait;", "", "").stop(0, 0), 1);
+        due.is("no such pleader goes", Due.of("", "wait;wait;go 0 0;", "", "").stop(0, 0), 2);
+        due.is("nothing stops waiting", Due.of("", "wait;wait;", "", "").stop(0, 0), 2);
+        due.is("no deeds", Due.of("", "", "", "").stop(0, 0), 0);
     }
 
     // promises 20 and 21
@@ -587,11 +565,11 @@ final class PromiseTest {
         due.is("heard in no court", x.heard(1, 0, 0), NONE);
         due.is("heard in no trial", x.heard(0, 1, 0), NONE);
         // without judges all is lost; a word heard once is not lost
-        x = of("plead 0;", "say 0 2 0;say 0 9 0;", "", "");
+        x = Due.of("plead 0;", "say 0 2 0;say 0 9 0;", "", "");
         due.is("lost without judges", x.knows(0, 0, 2, -2), 516);
         due.is("common without judges", x.knows(0, 0, 2, NONE), 0);
         due.is("heard without judges", x.heard(0, 0, 1), 0);
-        x = of("size 2 2;left 0 1 0 0;plead 2;", "say 0 2 9;say 0 3 0;go 0 0;say 0 2 0;say 1 5 5;", "", "");
+        x = Due.of("size 2 2;left 0 1 0 0;plead 2;", "say 0 2 9;say 0 3 0;go 0 0;say 0 2 0;say 1 5 5;", "", "");
         due.is("lost, both", x.knows(0, 0, 2, -2), 12);
         due.is("lost, one", x.knows(0, 0, 4, -2), 8);
         due.is("heard by none", x.heard(0, 0, 0), 0);
@@ -649,7 +627,7 @@ final class PromiseTest {
         Due.tell(x, Due.LAW, 1, "no - 9;no - 1;yes 8 -;yes 2 -;no - -;");
         due.is("persuade by three words", x.persuade(0, 0, 1, 1), 512 + 2 + 4);
         // without judges no verdict is made
-        OneEared empty = of("", "", "yes - -;no - -;", "");
+        OneEared empty = Due.of("", "", "yes - -;no - -;", "");
         due.is("persuade nobody", empty.persuade(0, 0, 0, 1), NONE);
         due.is("verdict of nobody", empty.votes(0, 0, 0, NONE), NONE);
         due.is("idle before nobody", empty.idle(0, 0, 0), 3);
@@ -670,7 +648,7 @@ final class PromiseTest {
         due.is("fair", x.sway(0, 0, 1, 1), 0);
         Due.tell(x, Due.LAW, 1, "yes 3 -;");
         due.is("only who votes sways", x.sway(0, 0, 1, 0), 1);
-        x = of("left 0 0 0 0;left 0 0 0 0;left 0 0 0 0;", "", "no - -;", "");
+        x = Due.of("left 0 0 0 0;left 0 0 0 0;left 0 0 0 0;", "", "no - -;", "");
         due.is("three of three", x.sway(0, 0, 0, 0), 0);
     }
 
@@ -687,9 +665,9 @@ final class PromiseTest {
         due.is("sold of -2", x.sold(0, 0, -2, false), NONE);
         due.is("sold in no court", x.sold(1, 0, 0, false), NONE);
         due.is("sold in no trial", x.sold(0, 1, 0, false), NONE);
-        due.is("sold without judges", of("", "", "", "").sold(0, 0, NONE, false), NONE);
+        due.is("sold without judges", Due.of("", "", "", "").sold(0, 0, NONE, false), NONE);
         // judges on 1 of a row 0 1 2, all facing north: the left ear HEARS 0, the right one 2
-        x = of("size 3 2;wall 3 4 5;left 1 0 9 0;right 1 0 9 0;right 1 0 9 0;plead 0;plead 1;plead 2;",
+        x = Due.of("size 3 2;wall 3 4 5;left 1 0 9 0;right 1 0 9 0;right 1 0 9 0;plead 0;plead 1;plead 2;",
                 "say 0 1 0;say 1 2 0;say 2 3 0;say 2 4 0;say 2 4 0;", "", "");
         due.is("sold left", x.sold(0, 0, 0, false), 1);
         due.is("sold right", x.sold(0, 0, 1, false), 2);
@@ -708,15 +686,15 @@ final class PromiseTest {
         due.is("seat of -2", x.seats(0, 0, -2), NONE);
         due.is("seats in no court", x.seats(1, 0, 0), NONE);
         due.is("seats in no trial", x.seats(0, 1, NONE), NONE);
-        due.is("seats without judges", of("", "", "", "").seats(0, 0, NONE), 0);
+        due.is("seats without judges", Due.of("", "", "", "").seats(0, 0, NONE), 0);
         // all seats alike: nobody moves
-        x = of("left 3 0 1 0;right 3 0 2 0;left 3 0 3 0;plead 3;", "say 0 1 0;say 0 2 0;", "", "");
+        x = Due.of("left 3 0 1 0;right 3 0 2 0;left 3 0 3 0;plead 3;", "say 0 1 0;say 0 2 0;", "", "");
         for (int j = 0; j < 3; j++) {
             due.is("stays " + j, x.seats(0, 0, j), j);
         }
         due.is("stays, known", x.seats(0, 0, NONE), 6);
         // on a row the pleader walks east; who reaches far should sit far off
-        x = of("size 4 2;wall 4 5 6 7;right 3 3 0 0;right 0 1 3 0;plead 0;", "say 0 1 0;say 0 2 0;", "", "");
+        x = Due.of("size 4 2;wall 4 5 6 7;right 3 3 0 0;right 0 1 3 0;plead 0;", "say 0 1 0;say 0 2 0;", "", "");
         due.is("the near seat", x.seats(0, 0, 0), 1);
         due.is("the far seat", x.seats(0, 0, 1), 0);
         due.is("both know both", x.seats(0, 0, NONE), 4);
@@ -746,7 +724,7 @@ final class PromiseTest {
         due.is("lips in no trial", x.lips(0, 1, 0, 0), -2);
         due.is("lips of no roll", x.lips(0, 0, 1, 0), -2);
         // the judge on 0 faces east, turns by 1, reach 0: he sees 1 2 3 at hour 0, 4 8 at hour 1
-        x = of("size 4 3;wall 6;left 0 1 0 1;left 4 1 0 0;plead 3;twin 0 8;plead 7;",
+        x = Due.of("size 4 3;wall 6;left 0 1 0 1;left 4 1 0 0;plead 3;twin 0 8;plead 7;",
                 "say 0 1 0;say 0 2 0;say 0 3 0;say 1 4 0;say 1 5 9;", "",
                 "know 0 1;know 0 2;know 0 3;know 1 4;know 1 5;know 0 5;know 5 1;know 1 1;");
         // judge 0: words 1 (over the row) and 2 (the twin's, in the column); judge 1 sees
@@ -756,7 +734,7 @@ final class PromiseTest {
         due.is("false, not seen", x.lips(0, 0, 0, 2), 4 + 8 + 64 + 128);
         due.is("reader, seen", x.lips(0, 0, 0, 3), 0);
         // on his own field nobody is ahead of him, but he HEARS; of several readers the least
-        x = of("size 4 2;left 0 1 0 0;left 1 1 0 0;left 2 3 0 0;plead 3;plead 1;", "say 0 1 0;say 1 2 0;", "",
+        x = Due.of("size 4 2;left 0 1 0 0;left 1 1 0 0;left 2 3 0 0;plead 3;plead 1;", "say 0 1 0;say 1 2 0;", "",
                 "know 2 2;know 1 1;know 0 1;know 0 2;know 1 2;");
         due.is("liars", x.lips(0, 0, 0, 0), 15);
         due.is("lips of three", x.lips(0, 0, 0, 1), 15);
@@ -766,7 +744,7 @@ final class PromiseTest {
         Due.tell(x, Due.ROLL, 1, "know 2 2;");
         due.is("reader of one", x.lips(0, 0, 1, 3), 2);
         // who faces away from the speaker on 0 reads nothing
-        x = of("left 12 0 0 0;plead 0;", "say 0 1 0;", "", "know 0 1;");
+        x = Due.of("left 12 0 0 0;plead 0;", "say 0 1 0;", "", "know 0 1;");
         due.is("not ahead", x.lips(0, 0, 0, 1), 0);
         due.is("not ahead, false", x.lips(0, 0, 0, 2), 1);
     }
@@ -793,7 +771,7 @@ final class PromiseTest {
         due.is("drawn in no court", x.drawn(1, 0, 0, 0, 0), NONE);
         due.is("drawn in no trial", x.drawn(0, 1, 0, 0, 0), NONE);
         // seed 0 thunders from the north at hour 0, from the east at hour 1 (54885 by 4 is 1)
-        x = of("size 3 3;left 4 0 9 0;plead 1;plead 4;twin 1 1;", "say 0 1 0;", "", "");
+        x = Due.of("size 3 3;left 4 0 9 0;plead 1;plead 4;twin 1 1;", "say 0 1 0;", "", "");
         due.is("drowned", x.drawn(0, 0, 0, 100, 10), 0);
         due.is("not by 0", x.drawn(0, 0, 0, 0, 10), 2);
         Due.tell(x, Due.TRIAL, 0, "wait;say 0 1 0;");
@@ -803,9 +781,9 @@ final class PromiseTest {
         due.is("hours up to STOP", x.drawn(0, 0, 0, 100, 1), 1);
         due.is("thunder is over", x.knows(0, 0, 1, 0), 2);
         // from 0 the word COMES from the north and the west: the left ear is left
-        x = of("size 3 3;left 4 0 9 0;plead 0;", "say 0 1 0;", "", "");
+        x = Due.of("size 3 3;left 4 0 9 0;plead 0;", "say 0 1 0;", "", "");
         due.is("the other side is heard", x.drawn(0, 0, 0, 100, 10), 2);
-        x = of("size 3 3;right 4 0 9 0;plead 0;", "say 0 1 0;", "", "");
+        x = Due.of("size 3 3;right 4 0 9 0;plead 0;", "say 0 1 0;", "", "");
         due.is("the right ear is not", x.drawn(0, 0, 0, 100, 10), 0);
     }
 
@@ -819,8 +797,8 @@ final class PromiseTest {
         due.is("bench of -2", x.bench(0, 0, -2), NONE);
         due.is("bench in no court", x.bench(1, 0, 0), NONE);
         due.is("bench in no trial", x.bench(0, 1, NONE), NONE);
-        due.is("start without judges", of("", "", "", "").bench(0, 0, NONE), 0);
-        due.is("bench, all even", of("left 0 3 0 2;", "wait;", "", "").bench(0, 0, 0), 0);
+        due.is("start without judges", Due.of("", "", "", "").bench(0, 0, NONE), 0);
+        due.is("bench, all even", Due.of("left 0 3 0 2;", "wait;", "", "").bench(0, 0, 0), 0);
     }
 
     // promises 35 and 36
@@ -830,10 +808,10 @@ final class PromiseTest {
         due.is("mouth, many", x.mouth(0, 0, true), 4);
         due.is("mouth in no court", x.mouth(1, 0, false), NONE);
         due.is("mouth in no trial", x.mouth(0, 1, true), NONE);
-        OneEared still = of("plead 0;", "say 0 1 9;", "", "");
+        OneEared still = Due.of("plead 0;", "say 0 1 9;", "", "");
         due.is("mouth, nobody heard", still.mouth(0, 0, false), NONE);
         due.is("mouth, nobody heard, many", still.mouth(0, 0, true), NONE);
-        OneEared even = of("left 0 0 0 0;plead 1;plead 0;plead 0;", "say 2 1 0;say 1 1 0;say 0 1 0;", "", "");
+        OneEared even = Due.of("left 0 0 0 0;plead 1;plead 0;plead 0;", "say 2 1 0;say 1 1 0;say 0 1 0;", "", "");
         due.is("mouth, of several the least", even.mouth(0, 0, false), 1);
         due.is("mouth, of several, many", even.mouth(0, 0, true), 1);
         due.is("rift, a", x.rift(0, 0, 0), 0);
@@ -843,13 +821,13 @@ final class PromiseTest {
         due.is("rift what -1", x.rift(0, 0, -1), NONE);
         due.is("rift in no court", x.rift(1, 0, 0), NONE);
         due.is("rift in no trial", x.rift(0, 1, 0), NONE);
-        due.is("rift of one judge", of("left 0 0 0 0;", "", "", "").rift(0, 0, 2), NONE);
-        OneEared quiet = of("left 0 0 0 0;left 0 0 0 0;left 0 0 0 0;", "", "", "");
+        due.is("rift of one judge", Due.of("left 0 0 0 0;", "", "", "").rift(0, 0, 2), NONE);
+        OneEared quiet = Due.of("left 0 0 0 0;left 0 0 0 0;left 0 0 0 0;", "", "", "");
         due.is("no rift, a", quiet.rift(0, 0, 0), 0);
         due.is("no rift, b", quiet.rift(0, 0, 1), 1);
         due.is("no rift, words", quiet.rift(0, 0, 2), 0);
         // judges on 0, 2, 4 and 4, each HEARS only his own field; 4 hears two words more
-        OneEared far = of("left 0 0 0 0;left 2 0 0 0;left 4 0 0 0;left 4 0 0 0;plead 0;plead 2;plead 4;",
+        OneEared far = Due.of("left 0 0 0 0;left 2 0 0 0;left 4 0 0 0;left 4 0 0 0;plead 0;plead 2;plead 4;",
                 "say 0 1 0;say 1 2 0;say 2 3 0;say 2 4 0;", "", "");
         due.is("rift of far, a", far.rift(0, 0, 0), 0);
         due.is("rift of far, b", far.rift(0, 0, 1), 2);
