@@ -1032,7 +1032,8 @@ public final class OneEared {
 
         /** The FIELDS heard on a JUDGE's seat from sides as the COURT lies, and on it. */
         long audibleFrom(int seat, int sides, int range) {
-            long set = 1L << of(seat, SEAT);
+            // what is no step away is the seat's own FIELD
+            long set = within[seat * RANGES];
             for (int side = 0; side < SIDES; side++) {
                 if ((sides >>> side & 1) != 0) {
                     set |= via[seat * SIDES + side];
