@@ -436,6 +436,11 @@ final class CourtEdgesTest {
         way(six, 0, 0, 4, 1, 4, 1, 4, 1, 4, 1, 4, 1, 4);
         way(six, 1, 0, 4, 3, 4, 3, 4, 3, 4, 3, 4, 3, 4);
         way(six, 2, 0, 1, 4, 1, 4, 1, 4, 1, 4, 1, 4, 1, 4);
+        // from corner to corner: when he says it he could be on each of 64 fields
+        way(Due.of("size 8 8;left 63 0 0 0;plead 0;"), 0, 0, 1, 1, 1, 1, 1, 1, 1, 2, 2, 2, 2, 2, 2, 2, 4);
+        way(Due.of("size 8 8;left 0 0 0 0;plead 63;"), 0, 0, 0, 0, 0, 0, 0, 0, 0, 3, 3, 3, 3, 3, 3, 3, 4);
+        way(Due.of("size 8 8;left 7 0 0 0;plead 56;"), 0, 0, 0, 0, 0, 0, 0, 0, 0, 1, 1, 1, 1, 1, 1, 1, 4);
+        way(Due.of("size 8 8;left 56 0 0 0;plead 7;"), 0, 0, 2, 2, 2, 2, 2, 2, 2, 3, 3, 3, 3, 3, 3, 3, 4);
         // the twin does not help: he stands on the judge's field
         way(Due.of("left 10 0 0 0;plead 12;twin 0 10;"), 0, 0, 3, 3, 4);
         for (int p = 0; p < 2; p++) {
