@@ -50,6 +50,8 @@ final class TextEdgesTest {
         test.inThePlace();
         test.images();
         test.imagesAreTheirOwn();
+        test.imagesOfEachSort();
+        test.imageOfFullTape();
         test.due.close();
     }
 
@@ -683,6 +685,65 @@ final class TextEdgesTest {
             }
             due.is("tape", x.end(12), NONE);
             due.is("the tape's first lines", x.end(10), 10);
+        }
+    }
+
+    private static String numbered(int sort, int number) {
+        return switch (sort) {
+            case 0 -> "size " + number + " 2;";
+            case 1 -> "go " + number + " 0;";
+            case 2 -> "yes " + number + " -;";
+            default -> "know 0 " + number + ";";
+        };
+    }
+
+    private static int numberOf(OneEared x, int sort, int at) {
+        return switch (sort) {
+            case 0 -> x.court(at, 0);
+            case 1 -> x.deed(at, 0, 1);
+            case 2 -> x.rule(at, 0, 1);
+            default -> x.claim(at, 0, 1);
+        };
+    }
+
+    // of each sort an image has as many as there were, however many there were of the others
+    private void imagesOfEachSort() {
+        for (int sort = 0; sort < 4; sort++) {
+            for (int many = 0; many <= 2; many++) {
+                OneEared x = new OneEared();
+                for (int i = 0; i < many; i++) {
+                    due.is("told", Due.tell(x, sort, numbered(sort, 2 + i)), i);
+                }
+                due.is("image", x.image(0), true);
+                for (int other = 0; other < 4; other++) {
+                    for (int i = 0; i < 2; i++) {
+                        boolean there = i < x.count(other);
+                        due.is("told behind the image", Due.tell(x, other, there ? i : NONE, other == 1 ? "go 1 0;" : numbered(other, 7)), i);
+                    }
+                }
+                due.is("again", x.again(0), true);
+                for (int other = 0; other < 4; other++) {
+                    due.is("count " + other + " of " + many, x.count(other), other == sort ? many : 0);
+                }
+                for (int i = 0; i < many; i++) {
+                    due.is("number of " + i + " of sort " + sort, numberOf(x, sort, i), 2 + i);
+                }
+            }
+        }
+    }
+
+    private void imageOfFullTape() {
+        OneEared x = new OneEared();
+        Due.put(x, " ".repeat(590) + "wait;wait;");
+        due.is("image", x.image(2), true);
+        Due.put(x, "?".repeat(600));
+        for (int i = 0; i < 2; i++) {
+            due.is("again", x.again(2), true);
+            due.is("601 bytes", x.end(601), NONE);
+            due.is("600 bytes", x.end(600), 600);
+            due.is("no room", x.feed(0, 0, 0, 0, 0), NONE);
+            due.is("text", x.text(1, NONE), 0);
+            due.is("deeds", x.deed(0, NONE, 0), 2);
         }
     }
 }

@@ -36,6 +36,7 @@ final class TrialEdgesTest {
         test.persuade();
         test.mouths();
         test.rifts();
+        test.thirtiethDeed();
         test.nobodyThere();
         test.afterOthers();
         test.due.close();
@@ -499,6 +500,16 @@ final class TrialEdgesTest {
             due.is("lips of '" + trial + "'", later.lips(0, 0, 0, 1), trial.contains("say 0 2") ? 2 : trial.contains("say 0 3") ? 4 : 0);
             due.is("lost of '" + trial + "'", later.knows(0, 0, later.stop(0, 0), -2), trial.contains("say 0 2") ? 4 : trial.contains("say 0 3") ? 8 : 0);
         }
+        // nor by JUDGES that a COURT had before another took its place
+        OneEared fewer = Due.of("size 8 8;plead 7;" + "left 0 1 0 0;".repeat(6), "say 0 1 0;", "", "know 5 1;know 1 1;");
+        due.is("lips of six", fewer.lips(0, 0, 0, 1), 3);
+        for (int i = 0; i < 3; i++) {
+            due.is("in the place of six", Due.tell(fewer, Due.COURT, 0, "size 8 8;plead 7;left 63 1 0 0;"), 0);
+            due.is("liars of one", fewer.lips(0, 0, 0, 0), 3);
+            due.is("lips of one", fewer.lips(0, 0, 0, 1), 0);
+            due.is("false of one", fewer.lips(0, 0, 0, 2), 3);
+            due.is("no reader", fewer.lips(0, 0, 0, 3), NONE);
+        }
         // on field 63, back to 56 and up to 7
         String last = "size 8 8;left 63 3 0 1;plead 56;plead 7;";
         seen(last, "say 0 1 0;say 1 2 0;", all, 3);
@@ -557,7 +568,9 @@ final class TrialEdgesTest {
         // the first number drawn is 99 by 116 and -389, 0 by 0, 54 and -397, 49 by 11, 50 by 74
         OneEared one = Due.of("", "wait;");
         int[][] told = {{116, 99, 0}, {116, 100, 1}, {-389, 99, 0}, {-389, 100, 1}, {0, 0, 0}, {0, 1, 1}, {54, 0, 0}, {54, 1, 1}, {-397, 1, 1},
-            {11, 49, 0}, {11, 50, 1}, {74, 50, 0}, {74, 51, 1}};
+            {11, 49, 0}, {11, 50, 1}, {74, 50, 0}, {74, 51, 1},
+            // x is 0xffff, then 0x63ffff: the lower sixteen bits are shifted out, all set as they are
+            {-115164386, 0, 0}, {-115164386, 1, 1}, {20036382, 99, 0}, {20036382, 100, 1}};
         for (int[] way : told) {
             due.is("hours of seed " + way[0] + " by " + way[1], one.drawn(0, 0, way[0], way[1], 1), way[2]);
         }
@@ -736,6 +749,7 @@ final class TrialEdgesTest {
         persuade(x, "no 1 -;yes 2 -;", 4, 0);
         // many WORDS at once
         persuade(x, "no 2 -;no 4 -;no - 0;no - 9;no - 3;yes 5 -;", 1 + 8 + 32 + 512, 0);
+        persuade(x, "no - 0;no - 1;no - 2;yes 3 -;", 15, 0);
         persuade(x, "no - 2;no - 3;no - 4;no - 5;no - 6;no - 7;no - 8;yes 9 0;", 1020, 0);
         // two judges, even: a word makes one of them vote otherwise, or not at all
         OneEared two = Due.of("left 0 0 0 0;left 1 0 0 0;plead 0;plead 1;", "say 0 1 0;say 1 2 0;", "");
@@ -802,6 +816,47 @@ final class TrialEdgesTest {
         String six = "left 0 0 0 0;".repeat(4) + "left 1 0 0 0;left 2 0 0 0;plead 1;plead 2;";
         rift(Due.of(six, "say 0 1 0;say 1 2 0;"), 4, 5, 2);
         rift(Due.of(six, "say 1 2 0;"), 0, 5, 1);
+    }
+
+    // ---- all that is asked behind all DEEDS, if there are as many as may be ----
+
+    private void thirtiethDeed() {
+        // only the thirtieth DEED, at hour 29, says something: from the west, where the left ear is
+        String trial = "wait;".repeat(29) + "say 3 7 1;";
+        OneEared x = Due.of(ROUND_ABOUT + "left 4 0 0 0;right 4 0 0 0;", trial, "yes 7 -;", "know 0 7;know 1 7;");
+        due.is("stop", x.stop(0, 0), 30);
+        due.is("knows behind 29", x.knows(0, 0, 29, 0), 0);
+        due.is("knows behind 30", x.knows(0, 0, 30, 0), 128);
+        due.is("heard", x.heard(0, 0, 29), 1);
+        due.is("verdict", x.votes(0, 0, 0, NONE), 1);
+        due.is("sway", x.sway(0, 0, 0, 0), 1);
+        due.is("tips", x.sway(0, 0, 0, 1), 1);
+        due.is("idle", x.idle(0, 0, 0), 0);
+        due.is("persuade to yes", x.persuade(0, 0, 0, 1), 0);
+        due.is("persuade to no", x.persuade(0, 0, 0, 0), NONE);
+        due.is("sold", x.sold(0, 0, 0, false), 1);
+        due.is("sold, the other", x.sold(0, 0, 1, false), 0);
+        due.is("third", x.sold(0, 0, 0, true), 0);
+        due.is("third, the other", x.sold(0, 0, 1, true), 1);
+        due.is("dearest", x.sold(0, 0, NONE, false), 0);
+        due.is("seats", x.seats(0, 0, NONE), 1);
+        due.is("bench", x.bench(0, 0, 0), 0);
+        due.is("bench, the other", x.bench(0, 0, 1), 2);
+        due.is("start", x.bench(0, 0, NONE), 0);
+        due.is("liar", x.lips(0, 0, 0, 0), 2);
+        due.is("drawn by 0", x.drawn(0, 0, 5, 0, 0), 1);
+        due.is("drawn by 0, what", x.drawn(0, 0, 5, 0, 10), 128);
+        due.is("drawn by 100, hours", x.drawn(0, 0, 5, 100, 1), 30);
+        due.is("mouth", x.mouth(0, 0, false), 3);
+        due.is("mouth, many", x.mouth(0, 0, true), 1);
+        due.is("rift", x.rift(0, 0, 2), 1);
+        // who turns by one faces east at hour 29, and the west is ahead of him or to his left at hours 31 and 32
+        x = Due.of(ROUND_ABOUT + "left 4 0 0 1;", trial);
+        due.is("start of who turns", x.bench(0, 0, NONE), 2);
+        // the seat that faces west has the judge whose REACH is enough at that hour
+        x = Due.of(ROUND_ABOUT + "left 4 3 0 0;left 0 0 1 0;", "wait;".repeat(29) + "say 3 7 0;");
+        due.is("seats, who needs REACH", x.seats(0, 0, 1), 0);
+        due.is("seats, known", x.seats(0, 0, NONE), 1);
     }
 
     // ---- a COURT without anybody, a TRIAL without anything ----
